@@ -1,0 +1,119 @@
+import java.lang.reflect.Constructor;
+import java.lang.reflect.Field;
+import java.lang.reflect.Method;
+import java.lang.reflect.Modifier;
+import java.nio.file.Files;
+import java.nio.file.Path;
+import java.util.ArrayList;
+import java.util.Arrays;
+import java.util.Collections;
+import java.util.HashSet;
+import java.util.List;
+import java.util.Set;
+
+/** The face as the document has it, and those rules of LANGUAGE.md that a test can see. */
+final class FaceTest {
+    private static final String[] FACE = {
+        "int begin() throws IllegalStateException",
+        "int end(int,boolean) throws IndexOutOfBoundsException,IllegalStateException",
+        "int jump(int) throws IllegalArgumentException,IllegalStateException",
+        "int stamp(int) throws IndexOutOfBoundsException",
+        "boolean isBefore(int,int) throws IllegalArgumentException",
+        "int read(int,int) throws IndexOutOfBoundsException,IllegalArgumentException,IllegalStateException",
+        "int readPlain(int,int) throws IndexOutOfBoundsException,IllegalArgumentException,IllegalStateException",
+        "int write(int,int,int) throws IndexOutOfBoundsException,IllegalArgumentException,IllegalStateException",
+        "boolean delete(int,int) throws IndexOutOfBoundsException,IllegalArgumentException,IllegalStateException",
+        "int clean(int) throws IllegalArgumentException",
+        "int setFreezing(int) throws IllegalArgumentException",
+        "boolean isMapped(int) throws IllegalArgumentException",
+        "boolean isWhole(int) throws IllegalArgumentException",
+        "int slot(int,int) throws IllegalArgumentException",
+        "int entries(int) throws IllegalArgumentException",
+        "float fullness(int) throws IllegalArgumentException",
+        "int oldest()",
+    };
+
+    private FaceTest() {
+    }
+
+    public static void main(String[] args) throws Exception {
+        face();
+        members(RowPages.class);
+        for (Class<?> inside : RowPages.class.getDeclaredClasses()) {
+            members(inside);
+            Check.same("rule 1: a class inside is static", Modifier.isStatic(inside.getModifiers()), true);
+            Check.same("rule 1: and not public", Modifier.isPublic(inside.getModifiers()), false);
+        }
+        source();
+        Check.finish();
+    }
+
+    private static void face() {
+        Class<?> type = RowPages.class;
+        Check.same("rule 1: final", Modifier.isFinal(type.getModifiers()), true);
+        Constructor<?>[] makers = type.getDeclaredConstructors();
+        Check.same("rule 1: one constructor", makers.length, 1);
+        Check.same("rule 1: it is public", Modifier.isPublic(makers[0].getModifiers()), true);
+        Check.same("rule 1: it takes nothing", makers[0].getParameterCount(), 0);
+        List<String> got = new ArrayList<>();
+        for (Method method : type.getDeclaredMethods()) {
+            if (!Modifier.isPrivate(method.getModifiers())) {
+                got.add(signature(method));
+            }
+        }
+        List<String> due = new ArrayList<>(Arrays.asList(FACE));
+        Collections.sort(got);
+        Collections.sort(due);
+        Check.same("rule 1: the face", got.toString(), due.toString());
+        for (Field field : type.getDeclaredFields()) {
+            Check.same("rule 1: a private field", Modifier.isPrivate(field.getModifiers()), true);
+        }
+    }
+
+    private static String signature(Method method) {
+        String text = method.getReturnType() + " " + method.getName() + "(" + names(method.getParameterTypes()) + ")";
+        String thrown = names(method.getExceptionTypes());
+        return thrown.isEmpty() ? text : text + " throws " + thrown;
+    }
+
+    private static String names(Class<?>[] types) {
+        List<String> names = new ArrayList<>();
+        for (Class<?> type : types) {
+            names.add(type.getSimpleName());
+        }
+        return String.join(",", names);
+    }
+
+    private static void members(Class<?> type) {
+        Set<String> face = new HashSet<>();
+        for (Method method : RowPages.class.getMethods()) {
+            face.add(method.getName());
+        }
+        for (Method method : type.getDeclaredMethods()) {
+            boolean isFace = type == RowPages.class && Modifier.isPublic(method.getModifiers());
+            Check.same("rule 1: the name " + method.getName(), !isFace && face.contains(method.getName()), false);
+            Check.same("rule 11: parameters", method.getParameterCount() <= 7, true);
+        }
+        int fields = 0;
+        for (Field field : type.getDeclaredFields()) {
+            boolean isStatic = Modifier.isStatic(field.getModifiers());
+            fields += isStatic ? 0 : 1;
+            Check.same("rule 5: " + field.getName(), isStatic && !Modifier.isFinal(field.getModifiers()), false);
+        }
+        Check.same("rule 11: fields", fields <= 20, true);
+    }
+
+    private static void source() throws Exception {
+        String text = Files.readString(Path.of("src/main/java/RowPages.java"));
+        String[] ruledOut = {"import ", "package ", "->", "::", "catch", "finally", "synchronized", "assert",
+            "static {", "System.", "Exact(", "while (true)", "for (;;)", "@"};
+        for (String sign : ruledOut) {
+            Check.same("LANGUAGE.md: the source has no " + sign, text.contains(sign), false);
+        }
+        for (char sign : text.toCharArray()) {
+            if (sign > 126) {
+                Check.same("LANGUAGE.md: a sign", sign, ' ');
+            }
+        }
+    }
+}
