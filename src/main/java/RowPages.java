@@ -410,7 +410,7 @@ public final class RowPages {
         private long committed;
 
         static boolean has(long set, int transaction) {
-            return transaction >= 0 && transaction < TRANSACTIONS && (set >>> transaction & 1L) != 0;
+            return transaction >= 0 && transaction < TRANSACTIONS && ((set >>> transaction) & 1L) != 0;
         }
 
         boolean areAllUsed() {

@@ -15,6 +15,7 @@ final class ReadingAndWritingTest {
         writeChanges();
         writeInPlaceOfDead();
         writeToAnotherPage();
+        writeToLowerPage();
         writeKeepsDeadNextWhenPageIsFull();
         writeRefused();
         writeWithoutRoom();
@@ -23,6 +24,8 @@ final class ReadingAndWritingTest {
         deleteRefused();
         deleteThrows();
         throwingChangesNothing();
+        manyVersions();
+        callsBeyondTheLast();
         Check.finish();
     }
 
@@ -224,6 +227,19 @@ final class ReadingAndWritingTest {
         Check.same("9: inserting goes to the lowest page", store.write(other, 2, 1), 0);
     }
 
+    private static void writeToLowerPage() {
+        RowPages store = new RowPages();
+        int own = store.begin();
+        Steps.write(store, own, 0, 16);
+        store.end(own, true);
+        store.clean(0);
+        int other = store.begin();
+        Check.same("9: the old one's page is full, a lower one is not", store.write(other, 0, 50), 0);
+        Check.same("9: with a new entry", store.entries(0), 2);
+        Check.same("9: and no next", store.slot(1, 7), 20);
+        reads("from there", store, other, 0, 50);
+    }
+
     private static void writeKeepsDeadNextWhenPageIsFull() {
         RowPages store = new RowPages();
         Steps.put(store, 0, 1);
@@ -368,5 +384,47 @@ final class ReadingAndWritingTest {
         Check.badState("10: refused", () -> store.delete(other, 0));
         Check.badArgument("9: value", () -> store.write(other, 2, 10000));
         Check.same("nothing has changed", Steps.picture(store), before);
+    }
+
+    /** Fills all slots and cleans them again; that is 38 calls. */
+    private static void fillAndClean(RowPages store, int key) {
+        int own = store.begin();
+        Steps.write(store, own, key, 32);
+        store.end(own, false);
+        for (int page = 0; page < 4; page++) {
+            store.clean(page);
+        }
+    }
+
+    private static void manyVersions() {
+        RowPages store = new RowPages();
+        store.setFreezing(1);
+        Steps.put(store, 5, 1);
+        store.clean(0);
+        for (int time = 0; time < 12; time++) {
+            int own = store.begin();
+            Steps.write(store, own, time % 5, 31);
+            reads("the latest of many versions", store, own, time % 5, 30);
+            store.end(own, false);
+            for (int page = 0; page < 4; page++) {
+                store.clean(page);
+            }
+        }
+        int last = store.begin();
+        store.write(last, 5, 2);
+        reads("behind many versions", store, last, 5, 2);
+        reads("nothing is left of them", store, last, 1, -1);
+    }
+
+    private static void callsBeyondTheLast() {
+        RowPages store = new RowPages();
+        for (int time = 0; time < 40; time++) {
+            fillAndClean(store, time % 6);
+        }
+        int own = store.begin();
+        store.write(own, 0, 1);
+        store.readPlain(own, 0);
+        store.delete(own, 0);
+        Check.same("beyond 512 calls only what is written is thrown", store.end(own, true), 0);
     }
 }
