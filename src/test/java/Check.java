@@ -1,3 +1,5 @@
+import java.util.function.IntConsumer;
+
 /** Counts what is as due and what is not, and tells it by the exit code. */
 final class Check {
     private static int right = 0;
@@ -42,6 +44,24 @@ final class Check {
 
     static void badState(String what, Runnable call) {
         fails(what, IllegalStateException.class, call);
+    }
+
+    /** A call with numbers that no transaction has, where so many have begun. */
+    static void noTransactions(String what, int begun, IntConsumer call) {
+        for (int number : new int[] {-1, begun, 60, 64, Integer.MIN_VALUE, Integer.MAX_VALUE}) {
+            noTransaction(what + " of transaction " + number, () -> call.accept(number));
+        }
+    }
+
+    /** A call with an argument ahead of the range and behind it, next to it and far away. */
+    static void badArguments(String what, int least, int greatest, IntConsumer call) {
+        for (int argument : new int[] {least - 1, greatest + 1, Integer.MIN_VALUE, Integer.MAX_VALUE}) {
+            badArgument(what + " of " + argument, () -> call.accept(argument));
+        }
+    }
+
+    static boolean isAllRight() {
+        return wrong == 0;
     }
 
     private static void tell(String what, boolean isRight, Object got, Object due) {

@@ -32,6 +32,25 @@ final class Steps {
         }
     }
 
+    /** Inserts one key in a transaction of its own that is taken back. */
+    static void putAndTakeBack(RowPages store, int key, int value) {
+        int transaction = store.begin();
+        store.write(transaction, key, value);
+        store.end(transaction, false);
+    }
+
+    /** Both ways to read tell the same. */
+    static void reads(String what, RowPages store, int transaction, int key, int due) {
+        Check.same("read: " + what, store.read(transaction, key), due);
+        Check.same("readPlain: " + what, store.readPlain(transaction, key), due);
+    }
+
+    static void jump(RowPages store, int... jumps) {
+        for (int stamps : jumps) {
+            store.jump(stamps);
+        }
+    }
+
     /** All that can be asked of an object without a transaction, as one text. */
     static String picture(RowPages store) {
         StringBuilder text = new StringBuilder();
