@@ -33,6 +33,8 @@ final class FaceTest {
         "int oldest()",
     };
 
+    private static final Path SOURCE = Path.of("src/main/java/RowPages.java");
+
     private FaceTest() {
     }
 
@@ -45,6 +47,7 @@ final class FaceTest {
             Check.same("rule 1: and not public", Modifier.isPublic(inside.getModifiers()), false);
         }
         source();
+        headings();
         Check.finish();
     }
 
@@ -103,8 +106,24 @@ final class FaceTest {
         Check.same("rule 11: fields", fields <= 20, true);
     }
 
+    /** The three lines that the interface says stand each ahead of its own calls. */
+    private static void headings() throws Exception {
+        String text = Files.readString(SOURCE);
+        int last = 0;
+        String[] signs = {"// ---- transactions\n", "public int begin()", "public int end(", "public int jump(",
+            "public int stamp(", "public boolean isBefore(", "// ---- reading and writing\n", "public int read(",
+            "public int readPlain(", "public int write(", "public boolean delete(", "// ---- pages\n",
+            "public int clean(", "public int setFreezing(", "public boolean isMapped(", "public boolean isWhole(",
+            "public int slot(", "public int entries(", "public float fullness(", "public int oldest("};
+        for (String sign : signs) {
+            int place = text.indexOf(sign);
+            Check.same("Terms: the interface says " + sign.trim() + " in its order", place > last, true);
+            last = place;
+        }
+    }
+
     private static void source() throws Exception {
-        String text = Files.readString(Path.of("src/main/java/RowPages.java"));
+        String text = Files.readString(SOURCE);
         String[] ruledOut = {"import ", "package ", "->", "::", "catch", "finally", "synchronized", "assert",
             "static {", "System.", "Exact(", "while (true)", "for (;;)", "@"};
         for (String sign : ruledOut) {

@@ -404,10 +404,23 @@ final class PageBoundaries {
         Check.same("that has none", store.slot(1, 7), 1);
     }
 
+    @Says(in = "Promise 15", value = "- `page`: 0 to 3")
+    @Break(from = "if (page < 0 || page >= PAGES)", to = "if (page <= 0 || page >= PAGES)")
+    @Break(from = "if (page < 0 || page >= PAGES)", to = "if (page < 0 || page >= PAGES - 1)")
+    @Break(from = "int place = firstOf(page) + slot;", to = "int place = slot;")
+    static void slotOfTheFirstAndTheLastPage() {
+        RowPages store = new RowPages();
+        int own = store.begin();
+        Steps.write(store, own, 0, 24);
+        Check.same("page 3", store.slot(3, 0), -1);
+        store.write(own, 5, 1);
+        Check.same("page 3, used", store.slot(3, 0), 5);
+        Check.same("page 0", store.slot(0, 0), 220);
+    }
+
     @Says(in = "Promise 15", value = "- `slot`: 0 to 7")
     @Break(from = "if (slot < 0 || slot >= SLOTS)", to = "if (slot <= 0 || slot >= SLOTS)")
     @Break(from = "if (slot < 0 || slot >= SLOTS)", to = "if (slot < 0 || slot >= SLOTS - 1)")
-    @Break(from = "if (page < 0 || page >= PAGES)", to = "if (page < 0 || page >= PAGES - 1)")
     static void firstAndLastSlot() {
         RowPages store = new RowPages();
         int own = store.begin();

@@ -287,6 +287,18 @@ final class SeeingBoundaries {
         Check.same("calls", calls + 2, MOST_CALLS);
     }
 
+    @Says(in = "Promise 8", value = "- `key`: 0 to 5")
+    @Break(from = "if (key < 0 || key >= KEYS)", to = "if (key <= 0 || key >= KEYS)")
+    @Break(from = "if (key < 0 || key >= KEYS)", to = "if (key < 0 || key >= KEYS - 1)")
+    static void plainOfTheFirstAndTheLastKey() {
+        RowPages store = new RowPages();
+        int own = store.begin();
+        store.write(own, 0, 10);
+        store.write(own, 5, 15);
+        Check.same("key 0", store.readPlain(own, 0), 10);
+        Check.same("key 5", store.readPlain(own, 5), 15);
+    }
+
     @Says(in = "Promise 8", value = "Throws `IndexOutOfBoundsException` if there never was such a transaction")
     @Break(from = "checkTransaction(transaction); checkKey(key); checkActive(transaction); for (int row",
             to = "checkKey(key); checkActive(transaction); for (int row")

@@ -31,6 +31,22 @@ final class TransactionBoundaries {
         Check.same("nor behind taking back", store.begin(), 3);
     }
 
+    @Says(in = "Promise 2", value = "Returns its number.")
+    @Break(from = "count++; skip(1); return transaction;", to = "count++; skip(1); return count;")
+    @Break(from = "return transactions.start();", to = "return Math.min(transactions.start(), 58);")
+    static void numberOfTheFirstAndTheLast() {
+        RowPages store = new RowPages();
+        int number = store.begin();
+        Check.same("the first", number, 0);
+        for (int time = 1; time < 60; time++) {
+            store.end(number, true);
+            number = store.begin();
+            Check.same("it is active", store.read(number, 0), -1);
+        }
+        Check.same("the last", number, 59);
+        Check.same("ended by its number", store.end(59, true), 0);
+    }
+
     @Says(in = "Promise 2", value = "Throws `IllegalStateException` if there were 60")
     @Break(from = "TRANSACTIONS = 60;", to = "TRANSACTIONS = 59;")
     @Break(from = "TRANSACTIONS = 60;", to = "TRANSACTIONS = 61;")
@@ -160,6 +176,19 @@ final class TransactionBoundaries {
         Check.same("63 before 31", store.isBefore(63, 31), false);
     }
 
+    @Says(in = "Promise 3", value = "- `commits`: whether it commits, or is taken back")
+    @Break(from = "transactions.finish(transaction, commits);", to = "transactions.finish(transaction, !commits);")
+    @Break(from = "transactions.finish(transaction, commits); if (!commits) {", to = "transactions.finish(transaction, commits); if (commits) {")
+    static void endsInTwoWays() {
+        RowPages store = new RowPages();
+        Steps.put(store, 0, 1);
+        Steps.putAndTakeBack(store, 0, 2);
+        int reader = store.begin();
+        Steps.reads("what is not taken back stands", store, reader, 0, 1);
+        Steps.put(store, 0, 3);
+        Steps.reads("what has committed stands", store, store.begin(), 0, 3);
+    }
+
     @Says(in = "Promise 3", value = "Returns how many transactions are active then.")
     @Break(from = "return transactions.activeCount();", to = "return transactions.activeCount() + 1;")
     @Break(from = "return transactions.activeCount();", to = "return transactions.count - 1;")
@@ -285,10 +314,19 @@ final class TransactionBoundaries {
     @Says(in = "Promise 6", value = "- `one`: 0 to 63")
     @Break(from = "if (stamp < 0 || stamp >= STAMPS)", to = "if (stamp <= 0 || stamp >= STAMPS)")
     @Break(from = "if (stamp < 0 || stamp >= STAMPS)", to = "if (stamp < 0 || stamp >= STAMPS - 1)")
-    static void leastAndGreatestStamp() {
+    static void leastAndGreatestOne() {
         RowPages store = new RowPages();
-        Check.same("0 and 63", store.isBefore(0, 63), false);
-        Check.same("63 and 0", store.isBefore(63, 0), true);
+        Check.same("0", store.isBefore(0, 1), true);
+        Check.same("63", store.isBefore(63, 1), true);
+    }
+
+    @Says(in = "Promise 6", value = "- `other`: 0 to 63")
+    @Break(from = "if (stamp < 0 || stamp >= STAMPS)", to = "if (stamp <= 0 || stamp >= STAMPS)")
+    @Break(from = "if (stamp < 0 || stamp >= STAMPS)", to = "if (stamp < 0 || stamp >= STAMPS - 1)")
+    static void leastAndGreatestOther() {
+        RowPages store = new RowPages();
+        Check.same("0", store.isBefore(62, 0), true);
+        Check.same("63", store.isBefore(62, 63), true);
     }
 
     @Says(in = "Promise 6", value = "Throws `IllegalArgumentException` if one or other is out of range")

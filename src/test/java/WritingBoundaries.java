@@ -44,6 +44,23 @@ final class WritingBoundaries {
         Check.same("the last one is in the last slot", store.slot(3, 7), 0);
     }
 
+    @Says("Keys are 0 to 5.")
+    @Break(from = "KEYS = 6;", to = "KEYS = 5;")
+    @Break(from = "KEYS = 6;", to = "KEYS = 7;")
+    @Break(from = "keys[place] = key;", to = "keys[place] = key % 5;")
+    static void sixKeys() {
+        RowPages store = new RowPages();
+        int own = store.begin();
+        for (int key = 0; key < 6; key++) {
+            store.write(own, key, 10 + key);
+        }
+        for (int key = 0; key < 6; key++) {
+            Steps.reads("each has its own value", store, own, key, 10 + key);
+            Check.same("and its own version", store.slot(0, key), key);
+        }
+        Check.badArgument("a seventh", () -> store.write(own, 6, 1));
+    }
+
     @Says("A transaction inserts a key of which it sees no version")
     @Break(from = "boolean isNext = isPlace(old) && pageOf(old) == pageOf(place);",
             to = "boolean isNext = pageOf(Math.max(old, 0)) == pageOf(place) && index.counts[key] > 0;")
@@ -286,6 +303,21 @@ final class WritingBoundaries {
         int reader = store.begin();
         Steps.reads("the first one", store, reader, 0, 1);
         Steps.reads("the last one", store, reader, 2, 2);
+    }
+
+    @Says(in = "Promise 9", value = "Inserts a key, or changes it, if the transaction sees it.")
+    @Break(from = "int old = seenPlace(transaction, key); int place = placeForNew(old);",
+            to = "int old = NONE; int place = placeForNew(old);")
+    @Break(from = "int old = seenPlace(transaction, key); int place = placeForNew(old);",
+            to = "int old = index.counts[key] > 0 ? index.places[key][0] : NONE; int place = placeForNew(old);")
+    static void insertsOrChanges() {
+        RowPages store = new RowPages();
+        Steps.putAndTakeBack(store, 0, 1);
+        int own = store.begin();
+        Check.same("it sees none, though a dead one lies there", store.write(own, 0, 2), 1);
+        Check.same("it sees it", store.write(own, 0, 3), 100002);
+        Check.same("the one that it saw has the death", store.slot(0, 1), 320);
+        Check.same("the dead one has none", store.slot(0, 0), 0);
     }
 
     @Says(in = "Promise 9", value = "- `key`: 0 to 5")
