@@ -240,7 +240,7 @@ public final class RowPages {
     // ---- what the calls check
 
     private void checkTransaction(int transaction) throws IndexOutOfBoundsException {
-        if (!transactions.wereBegun(transaction)) {
+        if (!transactions.wasBegun(transaction)) {
             throw new IndexOutOfBoundsException("there never was such a transaction");
         }
     }
@@ -417,7 +417,7 @@ public final class RowPages {
             return count >= TRANSACTIONS;
         }
 
-        boolean wereBegun(int transaction) {
+        boolean wasBegun(int transaction) {
             return transaction >= 0 && transaction < count;
         }
 
@@ -426,7 +426,7 @@ public final class RowPages {
         }
 
         boolean isTakenBack(int transaction) {
-            return wereBegun(transaction) && !has(active | committed, transaction);
+            return wasBegun(transaction) && !has(active | committed, transaction);
         }
 
         int start() {

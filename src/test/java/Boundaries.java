@@ -4,7 +4,7 @@ import java.util.ArrayList;
 import java.util.Comparator;
 import java.util.List;
 
-/** All tests of sentences that name a boundary case, one a sentence. */
+/** All tests of sentences, those that name a boundary case and the ordinary ones. */
 final class Boundaries {
     private static final Class<?>[] CLASSES = {
         TransactionBoundaries.class,
@@ -13,6 +13,7 @@ final class Boundaries {
         CleaningBoundaries.class,
         PageBoundaries.class,
         ThrowingBoundaries.class,
+        OrdinarySentences.class,
     };
 
     private Boundaries() {

@@ -5,10 +5,10 @@ final class CleaningBoundaries {
 
     @Says("A version can go, if its birth is of a transaction that was taken back")
     @Break(from = "(transactions.isTakenBack(slots.births[place]) ||", to = "(")
-    @Break(from = "return wereBegun(transaction) && !has(active | committed, transaction);",
-            to = "return wereBegun(transaction) && !has(committed, transaction);")
-    @Break(from = "return wereBegun(transaction) && !has(active | committed, transaction);",
-            to = "return wereBegun(transaction) && !has(active, transaction);")
+    @Break(from = "return wasBegun(transaction) && !has(active | committed, transaction);",
+            to = "return wasBegun(transaction) && !has(committed, transaction);")
+    @Break(from = "return wasBegun(transaction) && !has(active | committed, transaction);",
+            to = "return wasBegun(transaction) && !has(active, transaction);")
     static void deadOnesGoAtOnce() {
         RowPages store = new RowPages();
         int early = store.begin();

@@ -10,6 +10,8 @@ import java.util.Collections;
 import java.util.HashSet;
 import java.util.List;
 import java.util.Set;
+import java.util.regex.Matcher;
+import java.util.regex.Pattern;
 
 /** The face as the document has it, and those rules of LANGUAGE.md that a test can see. */
 final class FaceTest {
@@ -46,8 +48,13 @@ final class FaceTest {
             Check.same("rule 1: a class inside is static", Modifier.isStatic(inside.getModifiers()), true);
             Check.same("rule 1: and not public", Modifier.isPublic(inside.getModifiers()), false);
         }
+        Check.same("rule 11: some twelve classes", RowPages.class.getDeclaredClasses().length + 1 <= 12, true);
         source();
+        library();
+        news();
+        methodLengths();
         headings();
+        documentedFace();
         Check.finish();
     }
 
@@ -134,5 +141,54 @@ final class FaceTest {
                 Check.same("LANGUAGE.md: a sign", sign, ' ');
             }
         }
+    }
+
+    /** Every call by the name of a class: rule 4 has a list, and these few are on it. */
+    private static void library() throws Exception {
+        Set<String> allowed = Set.of("Math.max", "Math.floorMod", "Long.bitCount", "Transactions.has");
+        Matcher call = Pattern.compile("\\b([A-Z]\\w*\\.[a-z]\\w*)\\s*\\(").matcher(Files.readString(SOURCE));
+        while (call.find()) {
+            Check.same("rule 4: " + call.group(1), allowed.contains(call.group(1)), true);
+        }
+    }
+
+    /** Only constructors and fields make objects that stay; a call makes its exception alone. */
+    private static void news() throws Exception {
+        int made = 0;
+        for (String line : Files.readString(SOURCE).split("\n")) {
+            String text = line.trim();
+            if (text.startsWith("throw new ")) {
+                Check.same("rule 6: " + text, text.matches("throw new \\w+Exception\\(\"[^\"]+\"\\);"), true);
+            } else if (text.contains("new ") && !text.startsWith("/") && !text.startsWith("*")) {
+                boolean isField = text.matches("(private )?final \\w+(\\[\\])+ \\w+ = new .*;");
+                boolean isOwn = text.matches("\\w+ = new (Transactions|Slots|Index|Table|boolean)\\W.*;");
+                Check.same("room: " + text, isField || isOwn, true);
+                made++;
+            }
+        }
+        Check.same("room: objects are made", made > 0, true);
+    }
+
+    private static void methodLengths() throws Exception {
+        int length = 0;
+        for (String line : Files.readString(SOURCE).split("\n")) {
+            boolean isMethodEnd = line.matches("( {4}| {8})\\}");
+            length = isMethodEnd || line.isEmpty() ? 0 : length + 1;
+            Check.same("rule 11: a method of more than sixty lines", length > 60, false);
+        }
+    }
+
+    /** Every line of the document's face stands in the class, however it is broken into lines there. */
+    private static void documentedFace() throws Exception {
+        String text = Files.readString(SOURCE).replaceAll("\\s+", " ");
+        int lines = 0;
+        for (String line : Document.section("The public face").split("\n")) {
+            if (line.trim().startsWith("public ")) {
+                lines++;
+                String due = line.trim().replaceFirst(";$", " {");
+                Check.same("the face has: " + due, text.contains(due), true);
+            }
+        }
+        Check.same("lines of the face", lines, FACE.length + 2);
     }
 }

@@ -110,7 +110,7 @@ final class PageBoundaries {
     @Break(from = "int greatest = transactions.oldestActiveAge();", to = "int greatest = 0;")
     @Break(from = "if (isActive(transaction)) { greatest = Math.max(greatest, ageOf(stamps[transaction])); }",
             to = "if (isActive(transaction)) { greatest = ageOf(stamps[transaction]); }")
-    @Break(from = "if (isActive(transaction)) { greatest =", to = "if (wereBegun(transaction)) { greatest =")
+    @Break(from = "if (isActive(transaction)) { greatest =", to = "if (wasBegun(transaction)) { greatest =")
     static void oldestOfActiveOnes() {
         RowPages store = new RowPages();
         store.begin();

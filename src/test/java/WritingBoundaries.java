@@ -253,7 +253,7 @@ final class WritingBoundaries {
 
     @Says("of another transaction that is active, or that has committed")
     @Break(from = "&& !knows(writer, other);", to = "&& !has(snapshots[writer], other);")
-    @Break(from = "return has(active | committed, other) &&", to = "return wereBegun(other) &&")
+    @Break(from = "return has(active | committed, other) &&", to = "return wasBegun(other) &&")
     static void notRefusedByItselfNorByDead() {
         RowPages store = new RowPages();
         Steps.put(store, 0, 1);
@@ -421,7 +421,7 @@ final class WritingBoundaries {
         Check.same("deleted ahead of it", store.delete(other, 0), false);
     }
 
-    @Says("deletes, or changes, the version that it sees")
+    @Says("and deletes, or changes, the version that it sees")
     @Break(from = "putDeath(transaction, place); return true;", to = "return true;")
     static void deletingGivesADeath() {
         RowPages store = new RowPages();
